@@ -1439,6 +1439,11 @@ public final class SumWalker {
         private static final int NAME_IS_HAD = 4;
         private static final int SEVENTH_ROW = 5;
 
+        private static final int ROW_LINE = 0;
+        private static final int BOUND_LINE = 1;
+        private static final int STEPS_LINE = 2;
+        private static final int LAW_LINE = 3;
+
         private static final int LONGEST_WORD = 8;
         private static final int LONGEST_NUMBER = 9;
 
@@ -1480,25 +1485,25 @@ public final class SumWalker {
             if (token != WORD) {
                 return fail(CANNOT_STAND);
             }
-            if (word == codeOf("row")) {
-                return readRow(desk);
+            boolean good;
+            switch (lineOf(word)) {
+                case ROW_LINE:
+                    return readRow(desk);
+                case BOUND_LINE:
+                    good = readNumber(GREATEST);
+                    desk.bound = number;
+                    return good && readSign();
+                case STEPS_LINE:
+                    good = readNumber(MOST_STEPS);
+                    desk.steps = number;
+                    return good && readSign();
+                case LAW_LINE:
+                    good = readLaw();
+                    desk.law = lawOf(word);
+                    return good && readSign();
+                default:
+                    return fail(CANNOT_STAND);
             }
-            if (word == codeOf("bound")) {
-                boolean good = readNumber(GREATEST);
-                desk.bound = number;
-                return good && readSign();
-            }
-            if (word == codeOf("steps")) {
-                boolean good = readNumber(MOST_STEPS);
-                desk.steps = number;
-                return good && readSign();
-            }
-            if (word == codeOf("law")) {
-                boolean good = readLaw();
-                desk.law = lawOf(word);
-                return good && readSign();
-            }
-            return fail(CANNOT_STAND);
         }
 
         private boolean readRow(Desk desk) {
@@ -1519,7 +1524,7 @@ public final class SumWalker {
 
         private boolean readName(int rows) {
             step();
-            if (token != WORD || isReserved(word)) {
+            if (token != WORD || lineOf(word) != NONE || lawOf(word) != NONE) {
                 return fail(CANNOT_STAND);
             }
             for (int i = 0; i < rows && i < names.length; i++) {
@@ -1562,44 +1567,42 @@ public final class SumWalker {
             place = next;
             word = 0;
             number = 0;
+            int letters = endOfRun('a', 'z');
+            int digits = endOfRun('0', '9');
             if (next >= size) {
                 token = END;
-            } else if (isLetter(text[next])) {
-                stepWord();
-            } else if (isDigit(text[next])) {
-                stepNumber();
+            } else if (letters > next) {
+                takeWord(letters);
+            } else if (digits > next) {
+                takeNumber(digits);
             } else {
                 token = text[next] == ';' ? SIGN : NO_TOKEN;
                 next++;
             }
         }
 
-        private void stepWord() {
-            while (next < size && isLetter(text[next])) {
-                if (next - place < LONGEST_WORD) {
-                    word = word * 32 + (text[next] - 'a' + 1);
-                }
-                next++;
+        private int endOfRun(char low, char high) {
+            int end = next;
+            while (end < size && text[end] >= low && text[end] <= high) {
+                end++;
             }
-            token = next - place <= LONGEST_WORD ? WORD : NO_TOKEN;
+            return end;
         }
 
-        private void stepNumber() {
-            while (next < size && isDigit(text[next])) {
-                if (next - place < LONGEST_NUMBER) {
-                    number = number * 10 + (text[next] - '0');
-                }
-                next++;
+        private void takeWord(int end) {
+            token = end - place <= LONGEST_WORD ? WORD : NO_TOKEN;
+            for (; next < end && token == WORD; next++) {
+                word = word * 32 + (text[next] - 'a' + 1);
             }
-            token = next - place <= LONGEST_NUMBER ? NUMBER : NO_TOKEN;
+            next = end;
         }
 
-        private static boolean isLetter(int sign) {
-            return sign >= 'a' && sign <= 'z';
-        }
-
-        private static boolean isDigit(int sign) {
-            return sign >= '0' && sign <= '9';
+        private void takeNumber(int end) {
+            token = end - place <= LONGEST_NUMBER ? NUMBER : NO_TOKEN;
+            for (; next < end && token == NUMBER; next++) {
+                number = number * 10 + (text[next] - '0');
+            }
+            next = end;
         }
 
         /** A WORD as one number, five bits for each letter. */
@@ -1609,6 +1612,19 @@ public final class SumWalker {
                 code = code * 32 + (letters.charAt(i) - 'a' + 1);
             }
             return code;
+        }
+
+        private static int lineOf(long word) {
+            if (word == codeOf("row")) {
+                return ROW_LINE;
+            }
+            if (word == codeOf("bound")) {
+                return BOUND_LINE;
+            }
+            if (word == codeOf("steps")) {
+                return STEPS_LINE;
+            }
+            return word == codeOf("law") ? LAW_LINE : NONE;
         }
 
         private static int lawOf(long word) {
@@ -1622,11 +1638,6 @@ public final class SumWalker {
                 return REDUCED;
             }
             return word == codeOf("bare") ? BARE : NONE;
-        }
-
-        private static boolean isReserved(long word) {
-            return word == codeOf("row") || word == codeOf("bound") || word == codeOf("steps")
-                || word == codeOf("law") || lawOf(word) != NONE;
         }
     }
 
