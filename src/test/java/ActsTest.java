@@ -179,6 +179,10 @@ public final class ActsTest {
         printed("row a 6;", "2*3");
         printed("row a 360;steps 1;", "2^3*3^2*5 2*3^4*5");
         printed("row a 536870912;bound 1;", "2^29");
+        printed("row a 101;", "101 1 0");
+        printed("row a 100;bound 1;", "2^2*5^2");
+        printed("row a 10007;", "10007 1 0");
+        printed("row a 1024;bound 1;", "2^10");
         printed("row a 999999937;bound 1;", "999999937 1 0");
         printed("row a 223092870;bound 1;", "2*3*5*7*11*13*17*19*23");
         printed("row a 290990700;bound 1;", "2^2*3^2*5^2*7*11*13*17*19");

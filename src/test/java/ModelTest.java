@@ -37,10 +37,34 @@ public final class ModelTest {
     public static void main(String[] args) {
         int runs = args.length > 0 ? Integer.parseInt(args[0]) : 240;
         int first = args.length > 1 ? Integer.parseInt(args[1]) : 0;
+        sweep(runs);
         for (int run = first; run < first + runs; run++) {
             new ModelTest(run * 7919L + 17).run(run);
         }
         Due.end();
+    }
+
+    /** What is asked of one number, for all of the first numbers, by each LAW. */
+    private static void sweep(int runs) {
+        SumWalker x = new SumWalker();
+        Model model = new Model();
+        String[] calls = {"sum", "kind", "whole", "practical", "primitive", "guide 0", "guide 1", "guide 2", "guide 3",
+            "index 0", "index 1", "ladder -1", "mean 0 0", "mean 0 1", "mean 1 0", "mean 1 1", "factor -1 0",
+            "factor 1 0", "factor 1 1", "part 0", "part 1", "part 2", "divisor 2", "divisor 3", "divisor 5"};
+        for (int law = 0; law < 4; law++) {
+            agree(x, model, "rule", new int[] {2, law}, new ArrayList<>());
+            for (int n = 1; n <= 12 * runs; n++) {
+                for (int i = 0; i < (law == 0 ? calls.length : 2); i++) {
+                    String[] call = calls[i].split(" ");
+                    int[] a = new int[call.length];
+                    a[0] = n;
+                    for (int j = 1; j < call.length; j++) {
+                        a[j] = Integer.parseInt(call[j]);
+                    }
+                    agree(x, model, call[0], a, new ArrayList<>());
+                }
+            }
+        }
     }
 
     private int below(int n) {

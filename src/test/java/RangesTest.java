@@ -134,6 +134,7 @@ public final class RangesTest {
         Due.ok(x, "rows(10, 12, 6)", x.rows(10, 12, 6), 16);
         Due.ok(x, "rows(11, 13, 4)", x.rows(11, 13, 4), 12);
         Due.ok(x, "rows(2, 3, 4): of several the least", x.rows(2, 3, 4), 2);
+        Due.ok(x, "rows(6, 6, 4): one VALUE alone", x.rows(6, 6, 4), 6);
         Due.ok(x, "rows(138, 138, 2)", x.rows(138, 138, 2), 1);
         x.rule(1, 1);
         Due.ok(x, "rows(1, 10, 3)", x.rows(1, 10, 3), 8);

@@ -269,7 +269,11 @@ public final class RowsTest {
         whats("row a 34;", "guides", 3, 2, 4);
         // 8 and 6, then 5: of several GUIDES with as many PLACES the least.
         whats("law reduced;row a 8;", "guides", 2, 6, 1);
+        whats("law reduced;row a 50;steps 1;", "guides", 2, 2, 1);
         whats("row a 28;", "guides", 1, 28, 1);
+        // A less one that fewer PLACES have: 30, 42, 54, 66, 78, 90, then 144 and 4.
+        whats("row a 30;", "guides", 3, 6, 6);
+        whats("law unitary;row a 88;", "guides", 3, 8, 2);
         wrongs("guides", 2);
     }
 

@@ -114,6 +114,8 @@ public final class TextTest {
         Due.ok(x, "row(0)", x.row(0), 12);
         Due.no(x, "load(1)", x.load(1), Due.WRONG);
         Due.ok(x, "value(0, 1) of the new row", x.value(0, 1), 16);
+        Due.ok(x, "load of another desk", Due.load(x, "row c 25;"), 1);
+        Due.ok(x, "value(0, 1) of its row", x.value(0, 1), 6);
         Due.ok(x, "an empty desk", x.load(0), 0);
         Due.ok(x, "many(0)", x.many(0), 0);
     }
