@@ -1393,7 +1393,7 @@ public final class SumWalker {
             clear();
         }
 
-        private void clear() {
+        void clear() {
             count = 0;
             bound = 100_000;
             steps = 30;
