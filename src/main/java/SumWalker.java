@@ -36,8 +36,7 @@ public final class SumWalker {
     private static final int PERFECT = 1;
     private static final int RICH = 2;
 
-    private final int[] tape = new int[MOST_BYTES];
-    private final Reader reader = new Reader(tape);
+    private final Reader reader = new Reader();
     private final Primes primes = new Primes();
     private final Desk desk = new Desk();
     private final Desk fresh = new Desk();
@@ -51,7 +50,6 @@ public final class SumWalker {
     private final int[] marks = new int[FAR_APART + 1];
     /** One bit for each number up to MOST_WHOLE. */
     private final long[] reached = new long[MOST_WHOLE / 64 + 1];
-    private int taped = 0;
     private int actCount = 0;
     private int faultKind = NONE;
     private int faultPlace = NONE;
@@ -73,22 +71,21 @@ public final class SumWalker {
     }
 
     public int feed(int a, int b, int c, int d, int e) {
-        if (taped + 20 > tape.length) {
+        if (reader.taped + 20 > MOST_BYTES) {
             return NONE;
         }
-        tapeFour(a);
-        tapeFour(b);
-        tapeFour(c);
-        tapeFour(d);
-        tapeFour(e);
-        return taped;
+        reader.tapeFour(a);
+        reader.tapeFour(b);
+        reader.tapeFour(c);
+        reader.tapeFour(d);
+        reader.tapeFour(e);
+        return reader.taped;
     }
 
     public int load(int n) {
-        if (n < 0 || n > taped) {
+        if (n < 0 || n > reader.taped) {
             return refuse(WRONG);
         }
-        taped = 0;
         boolean good = reader.readDesk(n, fresh);
         faultKind = reader.fault;
         faultPlace = reader.faultPlace;
@@ -1048,13 +1045,6 @@ public final class SumWalker {
 
     // ---- state
 
-    private void tapeFour(int bytes) {
-        for (int shift = 24; shift >= 0 && taped < tape.length; shift -= 8) {
-            tape[taped] = (bytes >>> shift) & 255;
-            taped++;
-        }
-    }
-
     private void keepAct() {
         if (actCount >= acts.length) {
             dropOldestAct();
@@ -1425,7 +1415,7 @@ public final class SumWalker {
         }
     }
 
-    /** A desk's text, TOKEN by TOKEN. */
+    /** The tape, and the text on it, TOKEN by TOKEN. */
     private static final class Reader {
         private static final int END = 0;
         private static final int WORD = 1;
@@ -1447,7 +1437,7 @@ public final class SumWalker {
         private static final int LONGEST_WORD = 8;
         private static final int LONGEST_NUMBER = 9;
 
-        private final int[] text;
+        private final int[] text = new int[MOST_BYTES];
         private final long[] names = new long[MOST_ROWS];
         private int size = 0;
         private int next = 0;
@@ -1455,16 +1445,21 @@ public final class SumWalker {
         private int token = END;
         private long word = 0;
         private int number = 0;
+        int taped = 0;
         int fault = 0;
         int faultPlace = NONE;
 
-        Reader(int[] text) {
-            this.text = text;
+        void tapeFour(int bytes) {
+            for (int shift = 24; shift >= 0 && taped < text.length; shift -= 8) {
+                text[taped] = (bytes >>> shift) & 255;
+                taped++;
+            }
         }
 
-        /** Whether the first bytes are a DESK; if not, fault and faultPlace tell why. */
+        /** Whether the first bytes are a DESK; if not, fault and faultPlace tell why. The tape is empty then. */
         boolean readDesk(int bytes, Desk desk) {
-            size = Math.min(bytes, text.length);
+            size = Math.min(bytes, taped);
+            taped = 0;
             next = 0;
             fault = 0;
             faultPlace = NONE;
