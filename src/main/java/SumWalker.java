@@ -1456,7 +1456,7 @@ public final class SumWalker {
             }
         }
 
-        /** Whether the first bytes are a DESK; if not, fault and faultPlace tell why. The tape is empty then. */
+        /** Empties the tape; whether its first bytes are a DESK (if not, fault and faultPlace tell why). */
         boolean readDesk(int bytes, Desk desk) {
             size = Math.min(bytes, taped);
             taped = 0;
