@@ -271,7 +271,8 @@ public final class SumWalker {
     }
 
     public int before(int n, int m, int k) {
-        if (!isNumberOrNought(n) || m < 1 || m > MOST_BEFORE || k < 0) {
+        // Its promise tells n's own range, from 0 on, so here GREATEST doesn't end it.
+        if (n < 0 || m < 1 || m > MOST_BEFORE || k < 0) {
             return refuse(WRONG);
         }
         int found = 0;
@@ -442,7 +443,8 @@ public final class SumWalker {
     }
 
     public int touched(int n, int m, int what) {
-        if (!isNumberOrNought(n) || m < 1 || m > MOST_BEFORE || !isChoice(what, 1)) {
+        // As before(): n is from 0 on, and GREATEST doesn't end it.
+        if (n < 0 || m < 1 || m > MOST_BEFORE || !isChoice(what, 1)) {
             return refuse(WRONG);
         }
         int many = 0;
@@ -1018,10 +1020,6 @@ public final class SumWalker {
 
     private static boolean isNumber(int n) {
         return n >= 1 && n <= GREATEST;
-    }
-
-    private static boolean isNumberOrNought(int n) {
-        return n >= 0 && n <= GREATEST;
     }
 
     private static boolean isChoice(int what, int last) {

@@ -458,7 +458,7 @@ final class Model {
     }
 
     private long before(int n, int m, int k) {
-        refuseIf(n < 0 || n > TOP || m < 1 || m > 2000 || k < 0, 1);
+        refuseIf(n < 0 || m < 1 || m > 2000 || k < 0, 1);
         return kth(those(1, m, b -> sumOf(b, law) == n), k);
     }
 
@@ -593,7 +593,7 @@ final class Model {
     }
 
     private long touched(int n, int m, int what) {
-        refuseIf(n < 0 || n > TOP || m < 1 || m > 2000, 1);
+        refuseIf(n < 0 || m < 1 || m > 2000, 1);
         among(what, 1);
         List<Integer> all = those(1, m, b -> sumOf(b, law) == n);
         refuseIf(what == 1 && all.isEmpty(), 5);
