@@ -10,13 +10,25 @@ final class Due {
     private static int wrong = 0;
     private static int asked = 0;
     private static int promise = 0;
+    private static String sentence = "";
 
     private Due() {
+    }
+
+    /** One call with one of its numbers left open. */
+    interface Call {
+        long ask(SumWalker x, int n);
     }
 
     /** The promise that the next checks belong to. */
     static void promise(int number) {
         promise = number;
+        sentence = "";
+    }
+
+    /** The words of the document that the next checks belong to. */
+    static void sentence(String words) {
+        sentence = " (" + words + ")";
     }
 
     static void is(String call, long got, long want) {
@@ -41,7 +53,7 @@ final class Due {
     static void tell(String fault) {
         wrong++;
         if (wrong <= 50) {
-            System.out.println("promise " + promise + ": " + fault);
+            System.out.println((promise > 0 ? "promise " + promise : "terms") + sentence + ": " + fault);
         }
     }
 

@@ -35,9 +35,9 @@ public final class ModelTest {
     }
 
     public static void main(String[] args) {
-        int runs = args.length > 0 ? Integer.parseInt(args[0]) : 240;
+        int runs = args.length > 0 ? Integer.parseInt(args[0]) : 500;
         int first = args.length > 1 ? Integer.parseInt(args[1]) : 0;
-        sweep(runs);
+        sweep(6 * runs);
         for (int run = first; run < first + runs; run++) {
             new ModelTest(run * 7919L + 17).run(run);
         }
@@ -45,15 +45,18 @@ public final class ModelTest {
     }
 
     /** What is asked of one number, for all of the first numbers, by each LAW. */
-    private static void sweep(int runs) {
-        SumWalker x = new SumWalker();
+    private static void sweep(int numbers) {
         Model model = new Model();
         String[] calls = {"sum", "kind", "whole", "practical", "primitive", "guide 0", "guide 1", "guide 2", "guide 3",
             "index 0", "index 1", "ladder -1", "mean 0 0", "mean 0 1", "mean 1 0", "mean 1 1", "factor -1 0",
             "factor 1 0", "factor 1 1", "part 0", "part 1", "part 2", "divisor 2", "divisor 3", "divisor 5"};
         for (int law = 0; law < 4; law++) {
-            agree(x, model, "rule", new int[] {2, law}, new ArrayList<>());
-            for (int n = 1; n <= 12 * runs; n++) {
+            if (law > 0) {
+                model.call("rule", new int[] {2, law});
+            }
+            for (int n = 1; n <= numbers; n++) {
+                SumWalker x = new SumWalker();
+                x.rule(2, law);
                 for (int i = 0; i < (law == 0 ? calls.length : 2); i++) {
                     String[] call = calls[i].split(" ");
                     int[] a = new int[call.length];
@@ -76,7 +79,8 @@ public final class ModelTest {
         SumWalker x = new SumWalker();
         Model model = new Model();
         List<String> told = new ArrayList<>();
-        for (int calls = 0; calls < 480; ) {
+        // Each call is asked its STATUS, too, and an object is used for 512 calls at most.
+        for (int calls = 0; calls < 225; ) {
             String[] call = CALLS[calls == 0 ? CALLS.length - 1 : below(CALLS.length)].split(" ");
             if (call[0].equals("text")) {
                 calls += feedText(x, model, told);

@@ -53,6 +53,14 @@ public final class NumbersTest {
         factors(x, 1_018_081, 1009, 2);
         factors(x, 1_022_117, 1009, 1, 1013, 1);
         factors(x, 999_950_884, 2, 2, 97, 2, 163, 2);
+        // Two great primes each, that pass for one prime by 2 alone, by 2 and 7, by 2 and 61, and by 7 and 61.
+        factors(x, 21_359_521, 1009, 1, 21_169, 1);
+        factors(x, 2_284_453, 1069, 1, 2137, 1);
+        factors(x, 932_148_253, 21_589, 1, 43_177, 1);
+        factors(x, 189_714_193, 1399, 1, 135_607, 1);
+        factors(x, 842_824_981, 9181, 1, 91_801, 1);
+        factors(x, 5_090_821, 1303, 1, 3907, 1);
+        factors(x, 932_098_133, 17_627, 1, 52_879, 1);
         factors(x, 999_002_449, 31_607, 2);
         factors(x, 997_002_999, 3, 9, 37, 3);
         factors(x, 999_999_937, 999_999_937, 1);
@@ -188,7 +196,8 @@ public final class NumbersTest {
         }
         int weird = 0;
         for (int n = 1; n <= 3000; n++) {
-            weird += x.whole(n) == 2 ? 1 : 0;
+            SumWalker y = withLaw(n % 4);
+            weird += y.whole(n) == 2 ? 1 : 0;
         }
         Due.is("how many are WEIRD up to 3000", weird, 2);
         Due.no(x, "whole(3001)", x.whole(3001), Due.WRONG);
