@@ -48,6 +48,9 @@ public final class AloneTest {
     }
 
     private static void greatNumbers() {
+        ask("same(216, 900)", x -> x.same(216, 900));
+        ask("same(18, 12)", x -> x.same(18, 12));
+        ask("same(16, 120)", x -> x.same(16, 120));
         ask("guide(672, 3)", x -> x.guide(672, 3));
         ask("whole(70)", x -> x.whole(70));
         ask("whole(3000)", x -> x.whole(3000));

@@ -17,6 +17,7 @@ public final class TermsEdgesTest {
         climbs();
         lost();
         indices();
+        kins();
         parts();
         wholes();
         families();
@@ -377,6 +378,27 @@ public final class TermsEdgesTest {
         Due.ok(x, "kin(120, 459818240, 459818240, 0)", x.kin(120, 459_818_240, 459_818_240, 0), 459_818_240);
     }
 
+    private static void kins() {
+        Due.promise(16);
+        Due.sentence("how many unlike INDICES, how many numbers have KIN in it, the least number that has the most");
+        int[][] due = {
+            // from, to, how many, with KIN, the least with most
+            {6, 28, 22, 2, 6}, {6, 27, 22, 0, NONE}, {7, 28, 22, 0, NONE}, {6, 6, 1, 0, NONE}, {1, 1, 1, 0, NONE},
+            {30, 140, 110, 2, 30}, {TOP, TOP, 1, 0, NONE}
+        };
+        for (int[] one : due) {
+            SumWalker x = new SumWalker();
+            String call = "kins(" + one[0] + ", " + one[1] + ", ";
+            Due.ok(x, call + "0)", x.kins(one[0], one[1], 0), one[2]);
+            Due.ok(x, call + "1)", x.kins(one[0], one[1], 1), one[3]);
+            if (one[4] == NONE) {
+                Due.no(x, call + "2)", x.kins(one[0], one[1], 2), Due.NOTHING);
+            } else {
+                Due.ok(x, call + "2)", x.kins(one[0], one[1], 2), one[4]);
+            }
+        }
+    }
+
     private static void parts() {
         terms("PART of a prime in the INDEX: 1000 times all divisors of that, added, by that, rounded down");
         SumWalker x = withLaw(3);
@@ -677,6 +699,17 @@ public final class TermsEdgesTest {
         Due.ok(x, "same(223092870, 223092870)", x.same(223_092_870, 223_092_870), 1);
         Due.ok(x, "same(72, 108)", x.same(72, 108), 1);
         Due.ok(x, "same(72, 36)", x.same(72, 36), 0);
+        Due.ok(x, "same(16, 120)", x.same(16, 120), 0);
+        Due.ok(x, "same(32, 16)", x.same(32, 16), 0);
+        int[][] turned = {{18, 12}, {75, 12}, {54, 24}, {90, 60}, {150, 60}, {540, 600}, {1, 1}, {250, 40}};
+        for (int[] one : turned) {
+            // On a new object, and behind SHAPES with more of each prime.
+            SumWalker y = new SumWalker();
+            Due.ok(y, "same(" + one[0] + ", " + one[1] + ")", y.same(one[0], one[1]), 1);
+            SumWalker z = new SumWalker();
+            Due.ok(z, "same(27000, 27000)", z.same(27_000, 27_000), 1);
+            Due.ok(z, "same(" + one[0] + ", " + one[1] + ") then", z.same(one[0], one[1]), 1);
+        }
         Due.promise(48);
         Due.sentence("of several SHAPES the one whose least number is least");
         Due.ok(x, "shapes(1, 1, 0)", x.shapes(1, 1, 0), 1);
